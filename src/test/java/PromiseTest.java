@@ -653,6 +653,8 @@ public final class PromiseTest {
         due("25 one", x.worstOfTwo(0, 1), 1);
         x.soil(0);
         due("25 none", x.worstOfTwo(0, 0), 0);
+        // Of four fifths that say no, the next land of the same period leaves three.
+        due("25 all ways", openAll(10).worstOfTwo(3, 7), 3 * 48828125L);
         due("25 land", x.worstOfTwo(5, 0), NO);
         due("25 land", x.worstOfTwo(-1, 0), NO);
         due("25 period", x.worstOfTwo(0, 2), NO);
@@ -681,6 +683,8 @@ public final class PromiseTest {
         due("26 asked of 1 in period 0: 2 and 4", y.worstOfTwo(1, 0), 2);
         due("26 asked of 0 in period 0: all, of which the next leaves 3", y.worstOfTwo(0, 0), 3);
         due("26 first", y.firstOfTwo(), 1);
+        due("26 all ways", openAll(10).firstOfTwo(), 0);
+        due("26 in the last period", openAtTheEnd().firstOfTwo(), 0);
     }
 
     private static void p27Sherd() {
