@@ -28,6 +28,7 @@ public final class FaceTest {
 
     public static void main(String[] args) throws IOException {
         face();
+        sizes();
         source(Files.readString(Path.of("src/main/java/VaseCourt.java")));
         DUE.end();
     }
@@ -68,7 +69,33 @@ public final class FaceTest {
         }
     }
 
+    /** LANGUAGE.md 1 and 11: names, parameters, fields and classes; and fields that are for ever are final. */
+    private static void sizes() {
+        Set<String> names = new TreeSet<>();
+        for (String method : METHODS) names.add(method.split(" ")[1]);
+        Class<?>[] inside = VaseCourt.class.getDeclaredClasses();
+        DUE.is("more than twelve classes", inside.length + 1 > 12 ? 1 : 0, 0);
+        for (Class<?> c : inside) {
+            DUE.is("a class inside of " + c, c.getDeclaredClasses().length, 0);
+            int fields = 0;
+            for (Field field : c.getDeclaredFields()) {
+                boolean isStatic = Modifier.isStatic(field.getModifiers());
+                if (!isStatic) fields++;
+                else DUE.is("final " + field, Modifier.isFinal(field.getModifiers()) ? 1 : 0, 1);
+                DUE.is("public " + field, Modifier.isPublic(field.getModifiers()) ? 1 : 0, 0);
+            }
+            DUE.is("more than twenty fields in " + c, fields > 20 ? 1 : 0, 0);
+            for (Method method : c.getDeclaredMethods()) {
+                DUE.is(method + " bears a public name", names.contains(method.getName()) ? 1 : 0, 0);
+                DUE.is(method + " takes more than seven", method.getParameterCount() > 7 ? 1 : 0, 0);
+            }
+        }
+    }
+
     private static void source(String text) {
+        for (int k = 0; k < text.length(); k++) {
+            if (text.charAt(k) > 127) DUE.is("the source has a sign above 127 at " + k, text.charAt(k), 127);
+        }
         String code = text.replaceAll("(?s)/\\*.*?\\*/", "").replaceAll("//[^\n]*", "");
         for (String word : RULED_OUT) {
             Matcher m = Pattern.compile("(?<![A-Za-z])" + Pattern.quote(word) + "(?![A-Za-z])").matcher(code);

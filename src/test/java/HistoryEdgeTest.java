@@ -28,6 +28,7 @@ public final class HistoryEdgeTest {
         justTheseFall();
         aPaperCanFallOnce();
         onlyPapersThatStandBind();
+        noneGoesThroughAPlaceThatIsNotAllowed();
         paperToldIsOfEachEnd();
         historiesAreManyOrOneOrNone();
         atAndBothAtTheEnds();
@@ -352,6 +353,47 @@ public final class HistoryEdgeTest {
         due("9 one more, at odds with staying", x.histories(), 0);
     }
 
+    /** "each PAPER that STANDS allows each of its PLACES": also those between the ones that are asked of. */
+    private static void noneGoesThroughAPlaceThatIsNotAllowed() {
+        VaseCourt x = new VaseCourt(1);
+        x.way(0, 1, 0, 0);
+        x.way(1, 2, 1, 1);
+        x.paper(5, 1, 0, 1, 0);
+        // 000 222 333 444; not 011, 012, 111, 112.
+        due("9 none by 1 in period 1", x.histories(), 4);
+        due("10 behind it", x.at(2, 2), 1);
+        due("10 ahead of it", x.at(0, 0), 1);
+        due("10 ahead of it, there", x.at(1, 0), 0);
+        due("10 behind it, there", x.at(1, 2), 0);
+        due("11 from ahead to behind", x.both(0, 0, 2, 2), 0);
+        due("11 from behind to ahead", x.both(2, 2, 0, 0), 0);
+        due("18 to 2", x.given(2), 1);
+        due("18 to 1", x.given(1), 0);
+        due("23 worst", x.worst(2, 2), 3);
+        due("25 worst of two", x.worstOfTwo(2, 2), 2);
+        x.forge(0, 1);
+        x.paper(5, 0, 0, 0, 0);
+        // 111 112 222 333 444; not 000, 011, 012, though soil has 0.
+        due("9 none by 0 in period 0", x.histories(), 5);
+        due("10 from another one alone", x.at(1, 1), 2);
+        due("11 not from 0", x.both(0, 0, 1, 1), 0);
+        due("18 to 0", x.given(0), 0);
+        due("18 to 1", x.given(1), 1);
+        due("18 to 2", x.given(2), 2);
+        Due.textOf(x, "hold 0;limit 9;");
+        x.law(0, 0, 1);
+        x.law(1, 0, 1);
+        due("19 no link from 0", x.claim(0), 0);
+        due("19 a link from 1", x.claim(1), 1);
+        x.forge(1, 1);
+        x.paper(5, 2, 0, 2, 0);
+        // 000 011 111 333 444; not 012, 112, 222.
+        due("9 none by 2 NOW", x.histories(), 5);
+        due("18 to 0", x.given(0), 2);
+        due("18 to 1", x.given(1), 1);
+        due("19 no link to 2", x.claim(1), 0);
+    }
+
     private static void paperToldIsOfEachEnd() {
         VaseCourt x = new VaseCourt(10);
         x.paper(0, 0, 0, 0, 0);
@@ -362,6 +404,11 @@ public final class HistoryEdgeTest {
             due("5 the least numbers " + what, x.paperTold(0, what), least[what]);
             due("5 the greatest numbers " + what, x.paperTold(1, what), most[what]);
         }
+        x.forge(1, 1);
+        due("5 it is forged", x.paperTold(1, 5), 1);
+        due("5 it does not stand", x.paperTold(1, 6), 0);
+        due("5 the other one is not forged", x.paperTold(0, 5), 0);
+        due("5 the other one stands", x.paperTold(0, 6), 1);
     }
 
     private static void historiesAreManyOrOneOrNone() {

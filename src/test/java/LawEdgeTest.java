@@ -116,6 +116,15 @@ public final class LawEdgeTest {
         due("14 a word of all", Due.textOf(x, times(160, "a")), -100);
         due("14 a number of all", Due.textOf(x, "hold " + times(155, "1")), -105);
         due("14 a sign by itself each", Due.textOf(x, "hold" + times(156, "(")), -109);
+        VaseCourt y = new VaseCourt(0);
+        for (int k = 1; k <= 5; k++) {
+            due("14 each text may be as long", Due.textOf(y, "hold " + times(72, "1+") + "1" + k + ";limit " + k + ";"), k);
+        }
+        for (int k = 5; k >= 1; k--) {
+            y.law(0, 0, k);
+            due("17 hold of text " + k, y.says(0, 1, 0, 0), 82 + k);
+            due("17 limit of text " + k, y.says(0, 1, 0, 1), k);
+        }
     }
 
     /** "THE TAPE, which is empty then (by a FAULT, too)". */
