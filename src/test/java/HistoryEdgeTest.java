@@ -36,6 +36,7 @@ public final class HistoryEdgeTest {
         historyHas10000AtMost();
         worstOfAllOrNone();
         theQuestionIsOfTheLeastPeriodThenLand();
+        theFirstAndTheLastPlaceAreAskedOf();
         noQuestionIfNoneIsBelowAll();
         worstOfTwoOfFew();
         theFirstOfTwoIsOfTheLeastPeriodThenLand();
@@ -514,6 +515,28 @@ public final class HistoryEdgeTest {
         y.soil(16);
         y.way(4, 2, 10, 10);
         due("24 in the last period of all", y.question(), 112);
+    }
+
+    /** The one question that is best is the first of all, then the last one. */
+    private static void theFirstAndTheLastPlaceAreAskedOf() {
+        VaseCourt x = new VaseCourt(1);
+        x.soil(7);
+        x.way(0, 3, 0, 0);
+        for (int land = 0; land < 4; land++) x.way(land, 4, 1, 1);
+        x.paper(0, 4, 0, 2, 0);
+        // 004 034 114 224: just by 0 in period 0 two are parted from two.
+        due("24 of the first place", x.question(), 0);
+        due("25 with the first place next", x.worstOfTwo(4, 2), 2);
+        VaseCourt y = new VaseCourt(1);
+        y.soil(1);
+        for (int land = 1; land < 4; land++) y.way(0, land, 0, 0);
+        y.way(0, 4, 1, 1);
+        y.way(3, 4, 1, 1);
+        y.paper(5, 0, 0, 2, 0);
+        y.paper(5, 3, 0, 2, 0);
+        // 004 011 022 034: just by 4 in period 2.
+        due("24 of the last place", y.question(), 24);
+        due("25 with the last place next", y.worstOfTwo(0, 0), 2);
     }
 
     /** "none, if no QUESTION has a WORST below all of them". */
